@@ -74,6 +74,7 @@ public final class PolicyRouting {
         relations[pair(a, b)] = kind;
         relations[pair(b, a)] = opposite(kind);
         setLink(a, b, true);
+        sendAll();
         return DONE;
     }
 
@@ -292,6 +293,7 @@ public final class PolicyRouting {
             return ALREADY;
         }
         setLink(a, b, up);
+        sendAll();
         return DONE;
     }
 
@@ -302,7 +304,6 @@ public final class PolicyRouting {
         linkUp[back] = up;
         forget(there);
         forget(back);
-        sendAll();
     }
 
     private void forget(int direction) {

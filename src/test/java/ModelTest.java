@@ -60,7 +60,9 @@ public final class ModelTest {
     private void step() {
         int what = pick(100);
         int node = pick(n);
-        if (what < 5) {
+        if (what < 3) {
+            badCalls(node);
+        } else if (what < 6) {
             link();
         } else if (what < 10) {
             due("originate(" + node + ")", real.originate(node), model.setOrigin(node, true));
@@ -80,6 +82,36 @@ public final class ModelTest {
         int b = (a + 1 + pick(n - 1)) % n;
         int kind = 2 + pick(3);
         due("addLink(" + a + ", " + b + ", " + kind + ")", real.addLink(a, b, kind), model.addLink(a, b, kind));
+    }
+
+    /** compareState tells afterwards that none of these changed anything. */
+    private void badCalls(int node) {
+        int[] badNodes = {-1 - pick(3), n + pick(3), Integer.MIN_VALUE + pick(9), Integer.MAX_VALUE - pick(9)};
+        for (int bad : badNodes) {
+            due("originate(" + bad + ")", real.originate(bad), PolicyRouting.BAD);
+            due("withdraw(" + bad + ")", real.withdraw(bad), PolicyRouting.BAD);
+            due("selected(" + bad + ")", real.selected(bad), PolicyRouting.BAD);
+            due("expected(" + bad + ")", real.expected(bad), PolicyRouting.BAD);
+            due("routeKind(" + bad + ")", real.routeKind(bad), PolicyRouting.BAD);
+            due("forward(" + bad + ")", real.forward(bad), PolicyRouting.BAD);
+            badPairCalls(bad, node);
+            badPairCalls(node, bad);
+        }
+        badPairCalls(node, node);
+    }
+
+    private void badPairCalls(int a, int b) {
+        String pair = "(" + a + ", " + b + ")";
+        for (int kind = -1; kind <= 5; kind++) {
+            due("addLink" + pair + " " + kind, real.addLink(a, b, kind), PolicyRouting.BAD);
+            due("message" + pair + " " + kind, real.message(a, b, kind), PolicyRouting.BAD);
+        }
+        due("fail" + pair, real.fail(a, b), PolicyRouting.BAD);
+        due("restore" + pair, real.restore(a, b), PolicyRouting.BAD);
+        due("deliver" + pair, real.deliver(a, b), PolicyRouting.BAD);
+        due("heard" + pair, real.heard(a, b), PolicyRouting.BAD);
+        due("relation" + pair, real.relation(a, b), PolicyRouting.BAD);
+        checks.due("isUp" + pair, real.isUp(a, b), false);
     }
 
     private void turnLink(boolean up) {
