@@ -33,13 +33,4 @@ final class Checks {
             System.exit(1);
         }
     }
-
-    /** The code of a path, first node first. */
-    static long path(int... nodes) {
-        long code = 0;
-        for (int i = nodes.length - 1; i >= 0; i--) {
-            code = code * 16 + nodes[i] + 1;
-        }
-        return code;
-    }
 }
