@@ -189,13 +189,8 @@ public final class PolicyRouting {
         if (isBad(node)) {
             return BAD;
         }
-        int visited = 0;
         int at = node;
         for (int hops = 0; hops < nodeCount; hops++) {
-            if ((visited >> at & 1) == 1) {
-                return LOOP;
-            }
-            visited |= 1 << at;
             int next = chosenBy(at);
             if (next == at) {
                 return hops;
@@ -205,7 +200,7 @@ public final class PolicyRouting {
             }
             at = next;
         }
-        // Every node has been visited, so the packet has come to one of them again.
+        // The packet has been at nodeCount nodes and goes on, so it comes to one of them again.
         return LOOP;
     }
 

@@ -286,15 +286,12 @@ public final class Promise02Test extends Sentences {
     }
 
     private static void othersStay() {
-        for (int n = 3; n <= 8; n++) {
-            int size = n;
-            eachUnlinkedPair(busy(n), (a, b) -> {
-                Run x = busy(size);
-                State before = x.state().withoutLink(a, b);
-                // In this net the greater number may always be the customer.
-                x.addLink(a, b, a < b ? CUSTOMER : PEER, DONE);
-                x.keeps(before.only("heard", "relation", "isUp", "originates", "message", "selected"));
-            });
-        }
+        eachStart(start -> eachUnlinkedPair(start.get(), (a, b) -> {
+            Run x = start.get();
+            State before = x.state().withoutLink(a, b);
+            // In these nets the greater number may always be the customer.
+            x.addLink(a, b, a < b ? CUSTOMER : PEER, DONE);
+            x.keeps(before.only("heard", "relation", "isUp", "originates", "message", "selected"));
+        }));
     }
 }

@@ -231,17 +231,14 @@ public final class Promise03Test extends Sentences {
     }
 
     private static void othersStay() {
-        for (int n = 2; n <= 8; n++) {
-            int size = n;
-            eachPair(n, (a, b) -> {
-                Run x = busy(size);
-                if (!x.net.isUp(a, b)) {
-                    return;
-                }
+        eachStart(start -> eachPair(start.get().n, (a, b) -> {
+            Run x = start.get();
+            if (x.net.isUp(a, b)) {
                 dueOthersStay(x, a, b, () -> x.fail(a, b, DONE));
+            } else if (x.net.relation(a, b) != NONE) {
                 dueOthersStay(x, a, b, () -> x.restore(a, b, DONE));
-            });
-        }
+            }
+        }));
     }
 
     private static void dueOthersStay(Run x, int a, int b, Runnable call) {

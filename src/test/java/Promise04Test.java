@@ -11,6 +11,8 @@ public final class Promise04Test extends Sentences {
         holds("then the sending step", Promise04Test::withdrawSends);
         holds("Neither call changes a link, a relation, a heard code, or whether any other node originates.",
             Promise04Test::othersStay);
+        holds("Neither call changes a link, a relation, a heard code, or whether any other node originates.",
+            Promise04Test::otherOriginatorsStay);
         holds("A node that stops originating selects from its candidates at once, by the heard codes present.",
             Promise04Test::selectsAtOnce);
         holds("A node that stops originating selects from its candidates at once, by the heard codes present.",
@@ -116,9 +118,9 @@ public final class Promise04Test extends Sentences {
     }
 
     private static void othersStay() {
-        for (int n = 2; n <= 8; n++) {
-            for (int v = 0; v < n; v++) {
-                Run x = busy(n);
+        eachStart(start -> {
+            for (int v = 0; v < start.get().n; v++) {
+                Run x = start.get();
                 State before = x.state();
                 if (x.net.routeKind(v) == OWN) {
                     x.withdraw(v, DONE);
@@ -126,9 +128,36 @@ public final class Promise04Test extends Sentences {
                     x.originate(v, DONE);
                 }
                 x.keeps(before.only("relation", "isUp", "heard"));
-                x.keeps(before.only("originates", "selected").without("originates(" + v + ")")
-                    .without("selected(" + v + ")"));
+                State ofOthers = before.without("originates(" + v + ")").without("selected(" + v + ")");
+                x.keeps(ofOthers.only("originates", "selected"));
             }
+        });
+    }
+
+    /** Each node in turn, while all the others originate and while none of them does. */
+    private static void otherOriginatorsStay() {
+        for (int n = 2; n <= 8; n++) {
+            Run x = run(n, 1);
+            for (int v = 0; v < n; v++) {
+                x.originate(v, DONE);
+                x.withdraw(v, DONE);
+                dueOriginators(x, -1, NONE);
+            }
+            for (int v = 0; v < n; v++) {
+                x.originate(v, DONE);
+            }
+            for (int v = 0; v < n; v++) {
+                x.withdraw(v, DONE);
+                dueOriginators(x, v, OWN);
+                x.originate(v, DONE);
+                dueOriginators(x, -1, OWN);
+            }
+        }
+    }
+
+    private static void dueOriginators(Run x, int but, int kind) {
+        for (int v = 0; v < x.n; v++) {
+            x.routeKind(v, v == but ? NONE : kind);
         }
     }
 

@@ -257,20 +257,16 @@ public final class Promise05Test extends Sentences {
     }
 
     private static void othersStay() {
-        for (int n = 2; n <= 8; n++) {
-            int size = n;
-            eachPair(n, (from, to) -> {
-                Run x = busy(size);
-                if (x.net.message(from, to, 0) < 0) {
-                    return;
-                }
+        eachStart(start -> eachPair(start.get().n, (from, to) -> {
+            Run x = start.get();
+            if (x.net.message(from, to, 0) >= 0) {
                 State before = x.state();
                 x.deliver(from, to);
                 x.keeps(before.only("relation", "isUp", "originates"));
                 x.keeps(before.only("heard").without("heard(" + to + ", " + from + ")"));
                 x.keeps(before.only("selected").without("selected(" + to + ")"));
-            });
-        }
+            }
+        }));
     }
 
     private static void orderIsKept() {

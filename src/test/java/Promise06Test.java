@@ -240,11 +240,11 @@ public final class Promise06Test extends Sentences {
     }
 
     private static void othersStay() {
-        for (int n = 2; n <= 8; n++) {
-            Run x = busy(n);
+        eachStart(start -> {
+            Run x = start.get();
             State before = x.state();
             x.settle();
             x.keeps(before.only("relation", "isUp", "originates", "expected"));
-        }
+        });
     }
 }

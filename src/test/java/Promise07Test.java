@@ -80,6 +80,6 @@ public final class Promise07Test extends Sentences {
     }
 
     private static void changesNothingAtAll() {
-        changesNothing(net -> lookAtNodes(net::selected));
+        changesNothing("selected", net -> lookAtNodes(net::selected));
     }
 }

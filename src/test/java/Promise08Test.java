@@ -60,6 +60,6 @@ public final class Promise08Test extends Sentences {
     }
 
     private static void changesNothingAtAll() {
-        changesNothing(net -> lookAtNodes(net::expected));
+        changesNothing("expected", net -> lookAtNodes(net::expected));
     }
 }

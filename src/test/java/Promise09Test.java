@@ -73,6 +73,6 @@ public final class Promise09Test extends Sentences {
     }
 
     private static void changesNothingAtAll() {
-        changesNothing(net -> lookAtNodes(net::routeKind));
+        changesNothing("routeKind", net -> lookAtNodes(net::routeKind));
     }
 }

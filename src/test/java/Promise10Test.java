@@ -106,6 +106,6 @@ public final class Promise10Test extends Sentences {
     }
 
     private static void changesNothingAtAll() {
-        changesNothing(net -> lookAtPairs(net::heard));
+        changesNothing("heard", net -> lookAtPairs(net::heard));
     }
 }

@@ -140,7 +140,7 @@ public final class Promise11Test extends Sentences {
     }
 
     private static void changesNothingAtAll() {
-        changesNothing(net -> lookAtPairs((a, b) -> {
+        changesNothing("message", net -> lookAtPairs((a, b) -> {
             for (int k = -1; k <= 4; k++) {
                 net.message(a, b, k);
             }

@@ -91,6 +91,6 @@ public final class Promise12Test extends Sentences {
     }
 
     private static void changesNothingAtAll() {
-        changesNothing(PolicyRouting::inFlight);
+        changesNothing("inFlight", PolicyRouting::inFlight);
     }
 }

@@ -85,6 +85,6 @@ public final class Promise13Test extends Sentences {
     }
 
     private static void changesNothingAtAll() {
-        changesNothing(net -> lookAtPairs(net::relation));
+        changesNothing("relation", net -> lookAtPairs(net::relation));
     }
 }

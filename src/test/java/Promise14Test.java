@@ -61,6 +61,6 @@ public final class Promise14Test extends Sentences {
     }
 
     private static void changesNothingAtAll() {
-        changesNothing(net -> lookAtPairs(net::isUp));
+        changesNothing("isUp", net -> lookAtPairs(net::isUp));
     }
 }

@@ -201,6 +201,6 @@ public final class Promise15Test extends Sentences {
     }
 
     private static void changesNothingAtAll() {
-        changesNothing(net -> lookAtNodes(net::forward));
+        changesNothing("forward", net -> lookAtNodes(net::forward));
     }
 }

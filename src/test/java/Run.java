@@ -14,7 +14,7 @@ final class Run {
     Run(Checks checks, int nodes, int depth) {
         this.checks = checks;
         net = new PolicyRouting(nodes, depth);
-        n = State.nodesOf(net);
+        n = Math.max(2, Math.min(8, nodes));
         calls.append("new PolicyRouting(").append(nodes).append(", ").append(depth).append(")");
     }
 
@@ -136,12 +136,16 @@ final class Run {
     }
 
     State state() {
-        return new State(net);
+        return new State(net, n);
     }
 
     /** That nothing has changed of what the earlier state holds. */
     void keeps(State before) {
-        List<String> changes = before.changesIn(state());
+        same(before, state());
+    }
+
+    void same(State before, State now) {
+        List<String> changes = before.changesIn(now);
         if (!changes.isEmpty()) {
             checks.fault(calls + ", then " + String.join(", ", changes));
         }

@@ -1,4 +1,5 @@
 import java.util.function.Consumer;
+import java.util.function.Supplier;
 import java.util.stream.IntStream;
 
 /** What the tests share that go through the document sentence by sentence. */
@@ -56,12 +57,8 @@ abstract class Sentences {
         return code;
     }
 
-    /**
-     * A net in the midst of things: peers, customers, unlinked pairs, with more than two nodes a
-     * link that is down, full directions, withdrawals and stale paths. Customers have the greater
-     * numbers.
-     */
-    static Run busy(int n) {
+    /** Peers, customers, of which each has the greater number, and unlinked pairs. */
+    static Run links(int n) {
         Run x = run(n, 2);
         for (int a = 0; a < n; a++) {
             for (int b = a + 1; b < n; b++) {
@@ -70,6 +67,15 @@ abstract class Sentences {
                 }
             }
         }
+        return x;
+    }
+
+    /**
+     * The same in the midst of things: full directions, withdrawals and stale paths, and with more
+     * than two nodes a link that is down.
+     */
+    static Run busy(int n) {
+        Run x = links(n);
         x.originate(0, DONE);
         x.originate(n - 1, DONE);
         x.settle();
@@ -125,20 +131,65 @@ abstract class Sentences {
         });
     }
 
+    /** Every node but the last originates, and the last does not. */
+    private static Run withOriginators(Run x) {
+        for (int v = 0; v < x.n; v++) {
+            x.originate(v);
+        }
+        x.withdraw(x.n - 1);
+        return x;
+    }
+
+    /** Some links that were up are down, and the other way round. */
+    private static Run withOtherLinksUp(Run x, int some) {
+        eachPair(x.n, (a, b) -> {
+            if ((a + 2 * b) % 5 == some && x.net.relation(a, b) != NONE) {
+                if (x.net.isUp(a, b)) {
+                    x.fail(a, b);
+                } else {
+                    x.restore(a, b);
+                }
+            }
+        });
+        return x;
+    }
+
+    private static Run settled(Run x) {
+        x.settle();
+        return x;
+    }
+
+    /**
+     * Nets on which a test sees what a call changes beside what it should. They differ in the calls
+     * made last, since these hide what a faulty call has changed when it was made before them.
+     */
+    static void eachStart(Consumer<Supplier<Run>> test) {
+        int[] sizes = {2, 3, 5, 8};
+        for (int n : sizes) {
+            test.accept(() -> links(n));
+            test.accept(() -> withOriginators(links(n)));
+            for (int i = 0; i < 5; i++) {
+                int some = i;
+                test.accept(() -> withOtherLinksUp(withOriginators(busy(n)), some));
+                test.accept(() -> settled(withOtherLinksUp(withOriginators(busy(n)), some)));
+            }
+        }
+    }
+
     static void eachSize(Consumer<Run> test) {
         for (int n = 2; n <= 8; n++) {
             test.accept(busy(n));
         }
     }
 
-    /** That an object that was looked at does not differ from one that was not, then and later. */
-    static void changesNothing(Consumer<PolicyRouting> look) {
+    /** That an object that was looked at by a call does not differ from one that was not. */
+    static void changesNothing(String call, Consumer<PolicyRouting> look) {
         for (int n = 2; n <= 8; n++) {
             Run seen = busy(n);
             Run unseen = busy(n);
             look.accept(seen.net);
             look.accept(seen.net);
-            seen.keeps(unseen.state());
+            seen.same(new State(unseen.net, n, call), new State(seen.net, n, call));
             seen.settle();
             unseen.settle();
             seen.keeps(unseen.state());

@@ -6,49 +6,69 @@ import java.util.TreeMap;
 
 /** All that can be seen of an object, by the call that shows it. */
 final class State {
+    private static final String[] CALLS = {
+        "inFlight", "message", "heard", "relation", "isUp", "selected", "expected", "routeKind", "forward"};
     private static final int GREATEST_DEPTH = 4;
     private final Map<String, Long> answers = new TreeMap<>();
 
-    State(PolicyRouting net) {
-        int n = nodesOf(net);
-        for (int v = 0; v < n; v++) {
-            readNode(net, v);
-            for (int u = 0; u < n; u++) {
-                if (u != v) {
-                    readPair(net, u, v);
-                }
+    State(PolicyRouting net, int n) {
+        this(net, n, "");
+    }
+
+    /** Makes one of the calls after all the others, so that they show what it may change. */
+    State(PolicyRouting net, int n, String last) {
+        for (String call : CALLS) {
+            if (!call.equals(last)) {
+                read(net, n, call);
             }
         }
-        answers.put("inFlight()", (long) net.inFlight());
+        read(net, n, last);
     }
 
     private State(Map<String, Long> answers) {
         this.answers.putAll(answers);
     }
 
-    static int nodesOf(PolicyRouting net) {
-        int n = 0;
-        while (n < 100 && net.selected(n) != PolicyRouting.BAD) {
-            n++;
+    private void read(PolicyRouting net, int n, String call) {
+        if (call.equals("inFlight")) {
+            answers.put("inFlight()", (long) net.inFlight());
         }
-        return n;
+        for (int v = 0; v < n; v++) {
+            readNode(net, v, call);
+            for (int u = 0; u < n; u++) {
+                if (u != v) {
+                    readPair(net, u, v, call);
+                }
+            }
+        }
     }
 
-    private void readNode(PolicyRouting net, int v) {
-        answers.put("originates(" + v + ")", net.routeKind(v) == PolicyRouting.OWN ? 1L : 0L);
-        answers.put("routeKind(" + v + ")", (long) net.routeKind(v));
-        answers.put("selected(" + v + ")", net.selected(v));
-        answers.put("expected(" + v + ")", net.expected(v));
-        answers.put("forward(" + v + ")", (long) net.forward(v));
+    private void readNode(PolicyRouting net, int v, String call) {
+        String whole = call + "(" + v + ")";
+        switch (call) {
+            case "selected" -> answers.put(whole, net.selected(v));
+            case "expected" -> answers.put(whole, net.expected(v));
+            case "forward" -> answers.put(whole, (long) net.forward(v));
+            case "routeKind" -> {
+                answers.put(whole, (long) net.routeKind(v));
+                answers.put("originates(" + v + ")", net.routeKind(v) == PolicyRouting.OWN ? 1L : 0L);
+            }
+            default -> { }
+        }
     }
 
-    private void readPair(PolicyRouting net, int u, int v) {
-        String pair = "(" + u + ", " + v + ")";
-        answers.put("relation" + pair, (long) net.relation(u, v));
-        answers.put("isUp" + pair, net.isUp(u, v) ? 1L : 0L);
-        answers.put("heard" + pair, net.heard(u, v));
-        for (int k = 0; k <= GREATEST_DEPTH; k++) {
-            answers.put("message(" + u + ", " + v + ", " + k + ")", net.message(u, v, k));
+    private void readPair(PolicyRouting net, int u, int v, String call) {
+        String ends = call + "(" + u + ", " + v;
+        switch (call) {
+            case "relation" -> answers.put(ends + ")", (long) net.relation(u, v));
+            case "isUp" -> answers.put(ends + ")", net.isUp(u, v) ? 1L : 0L);
+            case "heard" -> answers.put(ends + ")", net.heard(u, v));
+            case "message" -> {
+                for (int k = 0; k <= GREATEST_DEPTH; k++) {
+                    answers.put(ends + ", " + k + ")", net.message(u, v, k));
+                }
+            }
+            default -> { }
         }
     }
 

@@ -1,3 +1,5 @@
+import java.util.function.Consumer;
+
 /** The term 'Expected path', with its three phases. */
 public final class TermExpectedTest extends Sentences {
     public static void main(String[] args) {
@@ -113,69 +115,79 @@ public final class TermExpectedTest extends Sentences {
 
     /** Customers that have the path of a peer or of another provider are of no use. */
     private static void customersWithAPathOfPhase1() {
-        Run x = run(6, 1);
-        x.addLink(0, 1, CUSTOMER, DONE);
-        x.addLink(1, 2, PEER, DONE);
-        x.addLink(0, 3, CUSTOMER, DONE);
-        x.addLink(3, 4, PROVIDER, DONE);
-        x.originate(2, DONE);
-        x.originate(4, DONE);
-        x.expected(1, path(1, 2));
-        x.expected(3, path(3, 4));
-        x.expected(0, 0);
+        eachNumbering(5, at -> {
+            Run x = run(5, 1);
+            x.addLink(at[0], at[1], CUSTOMER, DONE);
+            x.addLink(at[1], at[2], PEER, DONE);
+            x.addLink(at[0], at[3], CUSTOMER, DONE);
+            x.addLink(at[3], at[4], PROVIDER, DONE);
+            x.originate(at[2], DONE);
+            x.originate(at[4], DONE);
+            x.expected(at[1], path(at[1], at[2]));
+            x.expected(at[3], path(at[3], at[4]));
+            x.expected(at[0], 0);
+        });
     }
 
     private static void customersBeforePeers() {
-        Run x = run(6, 1);
-        x.addLink(4, 0, PEER, DONE);
-        x.addLink(4, 5, CUSTOMER, DONE);
-        x.addLink(5, 3, CUSTOMER, DONE);
-        x.addLink(3, 2, CUSTOMER, DONE);
-        x.originate(0, DONE);
-        x.expected(4, path(4, 0));
-        x.originate(2, DONE);
-        x.expected(4, path(4, 5, 3, 2));
+        eachNumbering(5, at -> {
+            Run x = run(5, 1);
+            x.addLink(at[0], at[1], PEER, DONE);
+            x.addLink(at[0], at[2], CUSTOMER, DONE);
+            x.addLink(at[2], at[3], CUSTOMER, DONE);
+            x.addLink(at[3], at[4], CUSTOMER, DONE);
+            x.originate(at[1], DONE);
+            x.expected(at[0], path(at[0], at[1]));
+            x.originate(at[4], DONE);
+            x.expected(at[0], path(at[0], at[2], at[3], at[4]));
+        });
     }
 
     /** Peers that have the path of another peer or of a provider are of no use. */
     private static void peersWithAPathOfPhase1() {
-        Run x = run(6, 1);
-        x.addLink(0, 1, PEER, DONE);
-        x.addLink(1, 2, PEER, DONE);
-        x.addLink(0, 3, PEER, DONE);
-        x.addLink(3, 4, PROVIDER, DONE);
-        x.originate(2, DONE);
-        x.originate(4, DONE);
-        x.expected(1, path(1, 2));
-        x.expected(3, path(3, 4));
-        x.expected(0, 0);
+        eachNumbering(5, at -> {
+            Run x = run(5, 1);
+            x.addLink(at[0], at[1], PEER, DONE);
+            x.addLink(at[1], at[2], PEER, DONE);
+            x.addLink(at[0], at[3], PEER, DONE);
+            x.addLink(at[3], at[4], PROVIDER, DONE);
+            x.originate(at[2], DONE);
+            x.originate(at[4], DONE);
+            x.expected(at[1], path(at[1], at[2]));
+            x.expected(at[3], path(at[3], at[4]));
+            x.expected(at[0], 0);
+        });
     }
 
     private static void peersBeforeProviders() {
-        Run x = run(6, 1);
-        x.addLink(4, 0, PROVIDER, DONE);
-        x.addLink(4, 5, PEER, DONE);
-        x.addLink(5, 3, CUSTOMER, DONE);
-        x.originate(0, DONE);
-        x.expected(4, path(4, 0));
-        x.originate(3, DONE);
-        x.expected(4, path(4, 5, 3));
+        eachNumbering(4, at -> {
+            Run x = run(4, 1);
+            x.addLink(at[0], at[1], PROVIDER, DONE);
+            x.addLink(at[0], at[2], PEER, DONE);
+            x.addLink(at[2], at[3], CUSTOMER, DONE);
+            x.originate(at[1], DONE);
+            x.expected(at[0], path(at[0], at[1]));
+            x.originate(at[3], DONE);
+            x.expected(at[0], path(at[0], at[2], at[3]));
+        });
     }
 
     /** A provider's path counts by its length alone, of whatever kind it is to the provider. */
     private static void shortestOfAnyKind() {
-        Run x = run(8, 1);
-        x.addLink(7, 0, PROVIDER, DONE);
-        x.addLink(0, 1, CUSTOMER, DONE);
-        x.addLink(1, 2, CUSTOMER, DONE);
-        x.addLink(7, 3, PROVIDER, DONE);
-        x.addLink(3, 4, PROVIDER, DONE);
-        x.originate(2, DONE);
-        x.expected(7, path(7, 0, 1, 2));
-        x.originate(4, DONE);
-        x.expected(7, path(7, 3, 4));
-        x.settle();
-        x.selected(7, path(7, 3, 4));
+        eachNumbering(6, at -> {
+            Run x = run(6, 1);
+            x.addLink(at[0], at[1], PROVIDER, DONE);
+            x.addLink(at[1], at[2], CUSTOMER, DONE);
+            x.addLink(at[2], at[3], CUSTOMER, DONE);
+            x.addLink(at[0], at[4], PROVIDER, DONE);
+            x.addLink(at[4], at[5], PROVIDER, DONE);
+            x.originate(at[3], DONE);
+            x.expected(at[0], path(at[0], at[1], at[2], at[3]));
+            x.originate(at[5], DONE);
+            x.expected(at[0], path(at[0], at[4], at[5]));
+            x.settle();
+            x.selected(at[0], path(at[0], at[4], at[5]));
+        });
     }
 
     private static void smallestOfAnyKind() {
@@ -195,47 +207,51 @@ public final class TermExpectedTest extends Sentences {
     }
 
     private static void providersOfAnyPhase() {
-        Run own = run(4, 1);
-        own.addLink(1, 0, CUSTOMER, DONE);
-        own.originate(1, DONE);
-        own.expected(0, path(0, 1));
-        for (int kind : KINDS) {
-            Run x = run(4, 1);
-            x.addLink(2, 0, CUSTOMER, DONE);
-            x.addLink(2, 3, kind, DONE);
-            x.originate(3, DONE);
-            x.expected(0, path(0, 2, 3));
-        }
+        eachNumbering(3, at -> {
+            Run own = run(3, 1);
+            own.addLink(at[1], at[0], CUSTOMER, DONE);
+            own.originate(at[1], DONE);
+            own.expected(at[0], path(at[0], at[1]));
+            for (int kind : KINDS) {
+                Run x = run(3, 1);
+                x.addLink(at[1], at[0], CUSTOMER, DONE);
+                x.addLink(at[1], at[2], kind, DONE);
+                x.originate(at[2], DONE);
+                x.expected(at[0], path(at[0], at[1], at[2]));
+            }
+        });
     }
 
+    /** Above, beside and away from the nodes that have a path. */
     private static void noPath() {
-        Run x = run(8, 1);
-        x.addLink(0, 1, CUSTOMER, DONE);
-        x.addLink(1, 2, PEER, DONE);
-        x.addLink(2, 3, PEER, DONE);
-        x.addLink(4, 5, PEER, DONE);
-        x.originate(2, DONE);
-        int[] without = {0, 4, 5, 6, 7};
-        x.settle();
-        for (int v : without) {
-            x.expected(v, 0);
-            x.routeKind(v, NONE);
-        }
-        x.expected(1, path(1, 2));
-        x.expected(3, path(3, 2));
+        eachNumbering(6, at -> {
+            Run x = run(6, 1);
+            x.addLink(at[0], at[1], CUSTOMER, DONE);
+            x.addLink(at[1], at[2], PEER, DONE);
+            x.addLink(at[1], at[3], PEER, DONE);
+            x.addLink(at[4], at[5], CUSTOMER, DONE);
+            x.originate(at[2], DONE);
+            x.settle();
+            x.expected(at[1], path(at[1], at[2]));
+            int[] without = {at[0], at[3], at[4], at[5]};
+            for (int v : without) {
+                x.expected(v, 0);
+                x.routeKind(v, NONE);
+            }
+        });
     }
 
     /** Seven steps up, seven down, and up, over and down, with and against the numbers. */
     private static void longestWays() {
         int[][] rows = {{0, 1, 2, 3, 4, 5, 6, 7}, {7, 6, 5, 4, 3, 2, 1, 0}, {4, 0, 6, 2, 7, 1, 5, 3}};
         for (int[] row : rows) {
-            for (int peers = 0; peers <= 7; peers++) {
+            for (int peers = -1; peers <= 7; peers++) {
                 dueLongWay(row, peers);
             }
         }
     }
 
-    /** Along the row: providers first, then one step over peers (none if it is 7), then customers. */
+    /** Along the row: providers first, then one step over peers (none if it is -1 or 7), then customers. */
     private static void dueLongWay(int[] row, int peers) {
         Run x = run(8, 1);
         for (int i = 0; i < 7; i++) {
@@ -246,22 +262,42 @@ public final class TermExpectedTest extends Sentences {
         x.expected(row[0], path(row));
     }
 
-    /** A node whose first source gets a shorter path only later in the same phase. */
+    /** A long way and a short one, of which now this and now that is found first. */
     private static void shorterWayFoundLater() {
         int[] steps = {CUSTOMER, PROVIDER};
         for (int step : steps) {
-            Run x = run(8, 1);
-            x.addLink(0, 1, step, DONE);
-            x.addLink(1, 2, step, DONE);
-            x.addLink(2, 3, step, DONE);
-            x.addLink(3, 7, step, DONE);
-            x.addLink(0, 6, step, DONE);
-            x.addLink(6, 4, step, DONE);
-            x.addLink(4, 7, step, DONE);
-            x.addLink(5, 0, step, DONE);
-            x.originate(7, DONE);
-            x.expected(0, path(0, 6, 4, 7));
-            x.expected(5, path(5, 0, 6, 4, 7));
+            eachNumbering(8, at -> {
+                Run x = run(8, 1);
+                x.addLink(at[0], at[1], step, DONE);
+                x.addLink(at[1], at[2], step, DONE);
+                x.addLink(at[2], at[3], step, DONE);
+                x.addLink(at[3], at[7], step, DONE);
+                x.addLink(at[0], at[4], step, DONE);
+                x.addLink(at[4], at[5], step, DONE);
+                x.addLink(at[5], at[7], step, DONE);
+                x.addLink(at[6], at[0], step, DONE);
+                x.originate(at[7], DONE);
+                x.expected(at[0], path(at[0], at[4], at[5], at[7]));
+                x.expected(at[6], path(at[6], at[0], at[4], at[5], at[7]));
+            });
+        }
+    }
+
+    /** All the ways to number n nodes. */
+    private static void eachNumbering(int n, Consumer<int[]> test) {
+        number(new int[n], 0, 0, test);
+    }
+
+    private static void number(int[] numbers, int next, int taken, Consumer<int[]> test) {
+        if (next == numbers.length) {
+            test.accept(numbers.clone());
+            return;
+        }
+        for (int v = 0; v < numbers.length; v++) {
+            if ((taken >> v & 1) == 0) {
+                numbers[next] = v;
+                number(numbers, next + 1, taken | 1 << v, test);
+            }
         }
     }
 }
