@@ -26,6 +26,8 @@ public final class Promise02Test extends Sentences {
         holds("with `PROVIDER` a is the customer of b", Promise02Test::provider);
         holds("with `PEER` both are peers", Promise02Test::peers);
         holds("Heard codes, other links and which nodes originate do not change.", Promise02Test::othersStay);
+        holds("Heard codes, other links and which nodes originate do not change.",
+            Promise02Test::linksAddedBeforeStay);
         finish();
     }
 
@@ -293,5 +295,24 @@ public final class Promise02Test extends Sentences {
             x.addLink(a, b, a < b ? CUSTOMER : PEER, DONE);
             x.keeps(before.only("heard", "relation", "isUp", "originates", "message", "selected"));
         }));
+    }
+
+    /** The relations are held against what was added, since a fault here could come with any link. */
+    private static void linksAddedBeforeStay() {
+        Run x = run(8, 1);
+        int[][] due = new int[8][8];
+        for (int step = 1; step < 8; step++) {
+            for (int a = 0; a + step < 8; a++) {
+                int b = a + step;
+                boolean peers = (a + step) % 3 == 0;
+                x.addLink(a, b, peers ? PEER : CUSTOMER, DONE);
+                due[a][b] = peers ? PEER : CUSTOMER;
+                due[b][a] = peers ? PEER : PROVIDER;
+                eachPair(8, (u, v) -> {
+                    x.relation(u, v, due[u][v]);
+                    x.isUp(u, v, due[u][v] != NONE);
+                });
+            }
+        }
     }
 }
