@@ -32,9 +32,10 @@ public final class PolicyRouting {
     private static final long NO_PATH = 0L;
     private static final int NOBODY = -1;
 
-    // Once a node's export is final, its directions are final after at most MAX_DEPTH more
-    // rounds. Exports become final up the provider hierarchy, then over peers, then down
-    // again: fewer than 20 steps with 8 nodes, so below 100 rounds.
+    // A direction is empty for good at most MAX_DEPTH rounds after its export is final. What is
+    // exported to providers and peers goes by what customers say alone, and so is final from
+    // the bottom of the hierarchy up; after these come the exports to customers, from the top
+    // down. With 8 nodes that is 7 steps up, one over peers and 7 down: 60 rounds at most.
     private static final int ROUNDS_BOUND = 10000;
 
     private final int nodeCount;

@@ -5,6 +5,7 @@ import com.sun.source.tree.IdentifierTree;
 import com.sun.source.tree.MemberSelectTree;
 import com.sun.source.tree.MethodInvocationTree;
 import com.sun.source.tree.MethodTree;
+import com.sun.source.tree.ModifiersTree;
 import com.sun.source.tree.NewArrayTree;
 import com.sun.source.tree.NewClassTree;
 import com.sun.source.tree.PrimitiveTypeTree;
@@ -16,8 +17,10 @@ import com.sun.source.util.TreePathScanner;
 import com.sun.source.util.Trees;
 import java.io.File;
 import java.io.IOException;
+import java.util.ArrayList;
 import java.util.HashMap;
 import java.util.HashSet;
+import java.util.List;
 import java.util.Map;
 import java.util.Set;
 import java.util.TreeSet;
@@ -27,22 +30,46 @@ import javax.tools.JavaCompiler;
 import javax.tools.StandardJavaFileManager;
 import javax.tools.ToolProvider;
 
-/** The rules of LANGUAGE.md that can be read off the source (1 to 6, 8 and 10). */
+/** 'The public face', and the rules of LANGUAGE.md that can be read off the source (1 to 6, 8 and 10). */
 public final class LanguageTest {
     private static final String SOURCE = "src/main/java/PolicyRouting.java";
     private static final int MOST_LINES = 60;
     private static final int MOST_PARAMETERS = 7;
     private static final int MOST_DEPTH = 6;
     private static final int MOST_FIELDS = 40;
+    // The code block of 'The public face', line by line.
     private static final Set<String> FACE = Set.of(
-        "<init>(int,int)int", "addLink(int,int,int)int", "fail(int,int)int", "restore(int,int)int",
-        "originate(int)int", "withdraw(int)int", "deliver(int,int)int", "settle()int",
-        "selected(int)long", "expected(int)long", "routeKind(int)int", "heard(int,int)long",
-        "message(int,int,int)long", "inFlight()int", "relation(int,int)int", "isUp(int,int)boolean",
-        "forward(int)int");
-    private static final Set<String> CONSTANTS = Set.of(
-        "DONE", "MOVED", "BAD", "NO_LINK", "ALREADY", "CYCLE", "EMPTY", "LOOP", "DROPPED",
-        "NONE", "OWN", "CUSTOMER", "PEER", "PROVIDER");
+        "public static final int DONE = 0;",
+        "public static final int MOVED = 1;",
+        "public static final int BAD = -1;",
+        "public static final int NO_LINK = -2;",
+        "public static final int ALREADY = -3;",
+        "public static final int CYCLE = -4;",
+        "public static final int EMPTY = -5;",
+        "public static final int LOOP = -6;",
+        "public static final int DROPPED = -7;",
+        "public static final int NONE = 0;",
+        "public static final int OWN = 1;",
+        "public static final int CUSTOMER = 2;",
+        "public static final int PEER = 3;",
+        "public static final int PROVIDER = 4;",
+        "public PolicyRouting(int nodes, int depth);",
+        "public int addLink(int a, int b, int kind);",
+        "public int fail(int a, int b);",
+        "public int restore(int a, int b);",
+        "public int originate(int node);",
+        "public int withdraw(int node);",
+        "public int deliver(int from, int to);",
+        "public int settle();",
+        "public long selected(int node);",
+        "public long expected(int node);",
+        "public int routeKind(int node);",
+        "public long heard(int at, int from);",
+        "public long message(int from, int to, int k);",
+        "public int inFlight();",
+        "public int relation(int a, int b);",
+        "public boolean isUp(int a, int b);",
+        "public int forward(int node);");
     private static final Set<Tree.Kind> FORBIDDEN = Set.of(
         Tree.Kind.THROW, Tree.Kind.TRY, Tree.Kind.SYNCHRONIZED, Tree.Kind.ASSERT, Tree.Kind.INSTANCE_OF,
         Tree.Kind.LAMBDA_EXPRESSION, Tree.Kind.MEMBER_REFERENCE, Tree.Kind.NULL_LITERAL,
@@ -68,8 +95,8 @@ public final class LanguageTest {
     private static final class Reader extends TreePathScanner<Void, Void> {
         private final Trees trees;
         private final Map<String, Set<String>> calls = new HashMap<>();
-        private final Set<String> publicMethods = new TreeSet<>();
-        private final Set<String> publicFields = new TreeSet<>();
+        private final Set<String> face = new TreeSet<>();
+        private final Set<String> constants = new HashSet<>();
         private final Set<String> methodNames = new HashSet<>();
         private int classes = 0;
         private int fields = 0;
@@ -94,6 +121,14 @@ public final class LanguageTest {
             if (!tree.getModifiers().getFlags().equals(wanted)) {
                 checks.fault("the class is not public and final");
             }
+            if (tree.getExtendsClause() != null || !tree.getImplementsClause().isEmpty()) {
+                checks.fault("the class has members of another one");
+            }
+            for (Tree member : tree.getMembers()) {
+                if (member.getKind() == Tree.Kind.BLOCK) {
+                    checks.fault("initialiser: " + member);
+                }
+            }
             return super.visitClass(tree, nothing);
         }
 
@@ -104,7 +139,7 @@ public final class LanguageTest {
                 checks.fault("two methods named " + method);
             }
             if (isPublic(tree.getModifiers().getFlags(), method)) {
-                publicMethods.add(signature(tree));
+                face.add(header(tree));
             }
             if (tree.getParameters().size() > MOST_PARAMETERS) {
                 checks.fault(method + " takes too many parameters");
@@ -125,13 +160,30 @@ public final class LanguageTest {
             return null;
         }
 
-        private static String signature(MethodTree tree) {
-            StringBuilder types = new StringBuilder();
+        /** The line that the document has for the method or the constructor. */
+        private static String header(MethodTree tree) {
+            boolean isConstructor = tree.getReturnType() == null;
+            List<String> words = words(tree.getModifiers());
+            words.add(isConstructor ? "PolicyRouting" : tree.getReturnType() + " " + tree.getName());
+            List<String> parameters = new ArrayList<>();
             for (VariableTree parameter : tree.getParameters()) {
-                types.append(types.length() == 0 ? "" : ",").append(parameter.getType());
+                parameters.add(parameter.getType() + " " + parameter.getName());
             }
-            Tree answer = tree.getReturnType();
-            return tree.getName() + "(" + types + ")" + (answer == null ? "int" : answer);
+            return String.join(" ", words) + "(" + String.join(", ", parameters) + ");";
+        }
+
+        private static String header(VariableTree field) {
+            List<String> words = words(field.getModifiers());
+            words.add(field.getType() + " " + field.getName() + " = " + field.getInitializer() + ";");
+            return String.join(" ", words);
+        }
+
+        private static List<String> words(ModifiersTree modifiers) {
+            List<String> words = new ArrayList<>();
+            for (Modifier modifier : modifiers.getFlags()) {
+                words.add(modifier.toString());
+            }
+            return words;
         }
 
         private static boolean isPublic(Set<Modifier> flags, String name) {
@@ -158,16 +210,24 @@ public final class LanguageTest {
         private void field(VariableTree tree, boolean isArray) {
             Set<Modifier> flags = tree.getModifiers().getFlags();
             if (isPublic(flags, tree.getName().toString())) {
-                publicFields.add(tree.getName().toString());
+                face.add(header(tree));
             }
             if (!flags.contains(Modifier.STATIC)) {
                 fields++;
-            } else if (isArray || !flags.contains(Modifier.FINAL)) {
-                checks.fault("static field that is no constant: " + tree);
+            } else if (isConstant(tree)) {
+                constants.add(tree.getName().toString());
+            } else {
+                checks.fault("static field that is no constant of int or long: " + tree);
             }
             if (isArray && !flags.contains(Modifier.FINAL)) {
                 checks.fault("array field that can be assigned to: " + tree);
             }
+        }
+
+        private static boolean isConstant(VariableTree field) {
+            String type = field.getType().toString();
+            boolean isFinal = field.getModifiers().getFlags().contains(Modifier.FINAL);
+            return isFinal && field.getInitializer() != null && (type.equals("int") || type.equals("long"));
         }
 
         @Override
@@ -183,6 +243,8 @@ public final class LanguageTest {
         public Void visitNewArray(NewArrayTree tree, Void nothing) {
             if (!method.isEmpty() || tree.getInitializers() != null || tree.getDimensions().size() != 1) {
                 checks.fault("array that is not made in a field's initialiser by its length: " + tree);
+            } else if (!constants.contains(tree.getDimensions().get(0).toString())) {
+                checks.fault("array with a length that is no constant: " + tree);
             }
             return super.visitNewArray(tree, nothing);
         }
@@ -216,12 +278,7 @@ public final class LanguageTest {
 
         void finish() {
             checks.due("number of classes", classes, 1);
-            if (!publicMethods.equals(FACE)) {
-                checks.fault("public methods are " + publicMethods);
-            }
-            if (!publicFields.equals(CONSTANTS)) {
-                checks.fault("public fields are " + publicFields);
-            }
+            checkFace();
             if (fields > MOST_FIELDS) {
                 checks.fault(fields + " fields");
             }
@@ -229,6 +286,19 @@ public final class LanguageTest {
                 int depth = depth(name, new HashSet<>());
                 if (depth > MOST_DEPTH) {
                     checks.fault("calls from " + name + " go " + depth + " deep");
+                }
+            }
+        }
+
+        private void checkFace() {
+            for (String line : FACE) {
+                if (!face.contains(line)) {
+                    checks.fault("not in the class: " + line);
+                }
+            }
+            for (String line : face) {
+                if (!FACE.contains(line)) {
+                    checks.fault("not in the document: " + line);
                 }
             }
         }

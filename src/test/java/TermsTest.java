@@ -6,8 +6,10 @@ public final class TermsTest extends Sentences {
         holds("there is at most one link between two nodes, it is never removed", TermsTest::linksStay);
         holds("A link is named by its two ends in either order.", TermsTest::eitherOrder);
         holds("any number of nodes may originate at one time", TermsTest::anyNumberOriginates);
+        holds("Its code is the sum of (vi + 1) * 16^i, so v0 is in the lowest digit (base 16).", TermsTest::digits);
         holds("For example, the path 2, 0 has code 3 + 1 * 16 = 19.", TermsTest::example);
         holds("Path codes are never negative", TermsTest::codesAreNeverNegative);
+        holds("heard(to, from): a path code, the last message delivered on it", TermsTest::lastDelivered);
         holds("0 when none has been delivered since the link last came up", TermsTest::heardSinceTheLinkCameUp);
         holds("its messages in flight: 0 to depth path codes, oldest first", TermsTest::zeroToDepth);
         holds("A message with code 0 is a withdrawal.", TermsTest::withdrawal);
@@ -94,6 +96,24 @@ public final class TermsTest extends Sentences {
         }
     }
 
+    private static void digits() {
+        Run x = chain(1, 5, 2, 7, 0, 3, 6, 1, 4);
+        x.originate(4, DONE);
+        x.settle(7);
+        x.selected(1, 0x52);
+        x.selected(6, 0x527);
+        x.selected(3, 0x5274);
+        x.selected(0, 0x52741);
+        x.selected(7, 0x527418);
+        x.selected(2, 0x5274183);
+        x.selected(5, 0x52741836);
+        x.expected(5, 0x52741836);
+        x.heard(5, 2, 0x5274183);
+        x.fail(5, 2, DONE);
+        x.restore(5, 2, DONE);
+        x.message(2, 5, 0, 0x5274183);
+    }
+
     private static void example() {
         Run x = run(3, 1);
         x.addLink(2, 0, PEER, DONE);
@@ -114,6 +134,27 @@ public final class TermsTest extends Sentences {
         x.message(0, 1, 0, 2271560481L);
         x.deliver(0, 1, DONE);
         x.heard(1, 0, 2271560481L);
+    }
+
+    private static void lastDelivered() {
+        Run x = run(3, 4);
+        x.addLink(1, 0, CUSTOMER, DONE);
+        x.addLink(2, 1, CUSTOMER, DONE);
+        x.originate(0, DONE);
+        x.deliver(0, 1, MOVED);
+        x.originate(1, DONE);
+        x.withdraw(1, DONE);
+        x.fail(0, 1, DONE);
+        x.messages(1, 2, path(1, 0), path(1), path(1, 0), 0);
+        x.heard(2, 1, 0);
+        x.deliver(1, 2, MOVED);
+        x.heard(2, 1, path(1, 0));
+        x.deliver(1, 2, MOVED);
+        x.heard(2, 1, path(1));
+        x.deliver(1, 2, MOVED);
+        x.heard(2, 1, path(1, 0));
+        x.deliver(1, 2, MOVED);
+        x.heard(2, 1, 0);
     }
 
     private static void heardSinceTheLinkCameUp() {
